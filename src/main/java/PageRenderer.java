@@ -274,11 +274,6 @@ public final class PageRenderer {
     private void clearPath() {
         pathBegun = false;
         edgeCount = 0;
-        partFirst = 0;
-        startX = 0;
-        startY = 0;
-        currentX = 0;
-        currentY = 0;
     }
 
     private void enterStream(int stream, int mix) {

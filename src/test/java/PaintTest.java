@@ -13,6 +13,7 @@ public final class PaintTest {
         nestedGroups();
         groupsAtFaults();
         painters();
+        renderingsBeginAnew();
         outside();
         Check.finish("PaintTest");
     }
@@ -55,6 +56,8 @@ public final class PaintTest {
         // After h the next edge goes on from the beginning: two triangles that share a corner.
         Check.rows("0 0 m 16 0 l 16 16 l h 16 16 l 0 16 l f", 15, 15, 15, 15);
         Check.rows("5 w 8 0 m 8 8 m 0 8 m S");
+        Check.rows("0 w 40 40 m 45 40 l n 20 20 m 0 20 l 0 0 l h S", 1, 2, 4, 8, 16);
+        Check.rows("0 w 40 40 m 45 40 l 20 20 m 0 20 l 0 0 l h S", 1, 2, 4, 8, 16);
         Check.rows("0 w 0 0 m 30 0 l h 20 20 l S", 1, 2, 4, 8, 16);
     }
 
@@ -218,6 +221,25 @@ public final class PaintTest {
         Check.put(x, 4, Check.times(34, "n") + "0 0 4 4 re f");
         Check.due("render", x.render(), PageRenderer.OK);
         Check.due("the last place", x.by(0, 0), 4 * 64 + 39);
+    }
+
+    private static void renderingsBeginAnew() {
+        String[] leftovers = {
+            "q q q q q q", "q 9 g q 4 0 0 4 0 0 cm", "9 g 50 w", "1 0 0 1 9 9 cm", "W", "q V q", "0 0 64 48 re",
+            "16 16 m", "1 2 3", "1 9 Dg", "Q", "7 g 0 0 64 48 re f", "q 2 Do"
+        };
+        for (String leftover : leftovers) {
+            PageRenderer x = Check.document(leftover, "q q 9 g Q 1 0 0 1 9 9 cm 0 0 64 48 re Q Q", "W q q 3 3 m");
+            Check.put(x, 0, "f 0 0 8 4 re f 2 8 m 2 20 l S q q q q q q");
+            x.renderAt(3);
+            Check.due("render after " + leftover, x.render(), PageRenderer.OK);
+            Check.due("row 0 after " + leftover, x.row(0), 3);
+            Check.due("row 1 after " + leftover, x.row(1), 1);
+            Check.due("row 5 after " + leftover, x.row(5), 0);
+            Check.due("count(1) after " + leftover, x.count(1), 6);
+            Check.put(x, 0, "2 2 l");
+            Check.due("no point after " + leftover, x.render(), PageRenderer.NOPOINT);
+        }
     }
 
     private static void outside() {
