@@ -5,15 +5,21 @@ final class Check {
     };
     private static int done = 0;
     private static int wrong = 0;
+    private static String sentence = "";
 
     private Check() {
+    }
+
+    /** Says which sentence of the document the next answers are about; wrong ones are told under it. */
+    static void sentence(String text) {
+        sentence = "[" + text + "] ";
     }
 
     static void due(String what, long got, long want) {
         done++;
         if (got != want) {
             wrong++;
-            System.out.println(what + " answered " + got + ", due is " + want);
+            System.out.println(sentence + what + " answered " + got + ", due is " + want);
         }
     }
 

@@ -179,7 +179,11 @@ public final class ModelTest {
             token(3, 0);
             return;
         }
-        numbers(between(-10, 74), between(-10, 58));
+        if (chance(8)) {
+            numbers(between(-1000, 1000), between(-1000, 1000));
+        } else {
+            numbers(between(-10, 74), between(-10, 58));
+        }
         if (kind == 4) {
             numbers(between(-40, 64), between(-30, 48));
         }
