@@ -285,8 +285,10 @@ public final class PageRenderer {
         operandCount = 0;
     }
 
-    // What the stream left in the list of operands stays there: only a beginning empties the list.
+    // Each stream has a list of operands of its own. That of the stream below is empty now, since the
+    // operator that drew this stream took all that was in it.
     private void leaveStream() {
+        operandCount = 0;
         depth--;
         if (frameMixes[depth] != NONE) {
             mixTopLayer(frameMixes[depth]);

@@ -57,12 +57,18 @@ public final class FaultTest {
         for (int n = 0; n < 3; n++) {
             Check.due("a rendering begins with no operand", x.render(), OK);
         }
-        // The list belongs to the rendering: only a beginning empties it, the end of a stream does not.
-        Check.outcome(OK, -1, 2, "1 Do g", "7");
-        Check.outcome(OPERANDS, 2, 1, "1 Do n", "7");
-        Check.outcome(OK, -1, 1, "1 Do 1 2 3 4 5 6", "");
-        Check.outcome(OPERANDS, 7, 1, "1 Do 1 2 3 4 5 6", "7");
-        Check.outcome(OPERANDS, 64 + 2, 3, "1 Do", "2 Do g", "n 1 2");
+        x = Check.document("1 2 3 4 5 6 7");
+        Check.put(x, 0, "n");
+        Check.due("renderAt(1)", x.renderAt(1), OPERANDS);
+        Check.due("a rendering begins with no operand after a fault", x.render(), OK);
+        // A stream has its own list: what a drawn one leaves over is no operand of the one that drew it.
+        Check.outcome(OPERANDS, 2, 1, "1 Do g", "7");
+        Check.outcome(OK, -1, 2, "1 Do n", "7");
+        Check.outcome(OK, -1, 2, "1 8 Dg n", "7");
+        Check.outcome(OK, -1, 2, "1 Do 9 g", "1 2 3 4 5 6");
+        Check.outcome(OK, -1, 1, "1 Do 1 2 3 4 5 6", "7");
+        Check.outcome(OPERANDS, 8, 1, "1 Do 1 2 3 4 5 6 7", "7");
+        Check.outcome(OPERANDS, 64 + 2, 3, "1 Do", "2 Do g", "n 1");
     }
 
     private static void tooManyNumbers() {

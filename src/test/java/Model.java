@@ -48,7 +48,6 @@ final class Model {
     private State state;
     private final Deque<State> saved = new ArrayDeque<>();
     private final List<Integer> executing = new ArrayList<>();
-    private final List<Integer> operands = new ArrayList<>();
     private final List<List<int[]>> path = new ArrayList<>();
     private Integer[][] colours;
     private Integer[][] marks;
@@ -169,12 +168,12 @@ final class Model {
 
     private void execute(int s) throws Fault {
         executing.add(s);
-        operands.clear();
+        List<Integer> operands = new ArrayList<>();
         int floor = saved.size();
         List<int[]> tokens = content(s, revisions);
         for (int t = 0; t < tokens.size(); t++) {
             try {
-                token(tokens.get(t), 64 * s + t, floor);
+                token(tokens.get(t), operands, 64 * s + t, floor);
             } catch (Fault fault) {
                 faultAt = faultAt < 0 ? 64 * s + t : faultAt;
                 throw fault;
@@ -183,7 +182,7 @@ final class Model {
         executing.remove(Integer.valueOf(s));
     }
 
-    private void token(int[] token, int mark, int floor) throws Fault {
+    private void token(int[] token, List<Integer> operands, int mark, int floor) throws Fault {
         int kind = token[0];
         if (kind == 0) {
             demand(operands.size() < 6, 1);

@@ -12,6 +12,7 @@ public final class PaintTest {
     public static void main(String[] args) {
         stateAtFirst();
         renderingsBeginAnew();
+        tokensInOrder();
         currentPoints();
         partsAfterClosing();
         rectangles();
@@ -90,6 +91,19 @@ public final class PaintTest {
             Check.put(x, 0, "2 2 l");
             Check.due("no point after " + leftover, x.render(), PageRenderer.NOPOINT);
         }
+    }
+
+    private static void tokensInOrder() {
+        Check.sentence("STATE: The tokens of a stream are executed in their order");
+        PageRenderer x = Check.rows("0 0 8 4 re f 2 g 4 0 8 4 re f 3 g 8 0 8 4 re f", 15);
+        Check.due("the first", x.pixel(0, 0), 1);
+        Check.due("the second", x.pixel(1, 0), 2);
+        Check.due("the third", x.pixel(2, 0), 3);
+        // As many tokens as the units allow, and still all of them up to the last one.
+        String five = Check.times(5, "1 0 0 1 0 0 cm");
+        x = Check.outcome(OK, -1, 194, Check.times(16, "1 Do") + "0 0 4 4 re f", five + "2 Do", five);
+        Check.due("row(0) after more than a thousand tokens", x.row(0), 1);
+        Check.outcome(PageRenderer.TIME, 2 * 64 + 13, 200, Check.times(17, "1 Do"), five + "2 Do", five);
     }
 
     private static void currentPoints() {
@@ -270,6 +284,8 @@ public final class PaintTest {
         Check.rows("5 w 0 0 m 0 20 l 40 20 m S", 1, 1, 1, 1, 1);
         Check.rows("5 w 40 20 m 0 0 m 0 20 l S", 1, 1, 1, 1, 1);
         Check.rows("60 w S");
+        PageRenderer x = Check.rows("0 0 64 4 re f 9 g 40 0 m S", 65535);
+        Check.due("nothing of an earlier fill is painted again", x.count(9), 0);
         // h makes an edge of no length, which is an edge.
         Check.rows("5 w 3 3 m h S", 1);
     }
@@ -320,6 +336,10 @@ public final class PaintTest {
         Check.due("the colour", x.count(1), 1);
         x = Check.rows("q 7 g 5 w 1 0 0 1 8 0 cm 0 0 4 4 re f 0 10 m 0 20 l S", 4, 0, 6, 6, 6);
         Check.due("the colour before Q", x.count(7), 7);
+        Check.rows("5 w q 0 0 m 0 20 l S", 1, 1, 1, 1, 1);
+        Check.rows("5 w q 2 w Q 0 0 m 0 20 l S", 1, 1, 1, 1, 1);
+        Check.rows("5 w q 2 w q Q Q 0 0 m 0 20 l S", 1, 1, 1, 1, 1);
+        Check.rows("5 w q 2 w q 0 0 m 0 20 l S");
         Check.rows("q V Q 0 0 8 4 re f", 3);
         Check.rows("q W q Q " + ALL);
         Check.rows("q 0 0 4 4 re W q 4 4 4 4 re W Q " + ALL, 1);
@@ -390,6 +410,8 @@ public final class PaintTest {
         Check.rows("1 Do 0 0 8 4 re f|0 0 4 4 re W", 3);
         Check.rows("0 0 4 4 re W 1 Do|" + ALL, 1);
         Check.rows("1 Do 0 0 m 0 20 l S|60 w");
+        Check.rows("5 w 1 Do|0 0 m 0 20 l S", 1, 1, 1, 1, 1);
+        Check.rows("5 w 1 Do 0 0 m 0 20 l S|q 0 w", 1, 1, 1, 1, 1);
         x = Check.rows("5 g 1 Do 0 0 4 4 re f|6 g q 7 g q 8 g q 9 g Q", 1);
         Check.due("what was left saved is restored too", x.pixel(0, 0), 5);
     }
