@@ -83,7 +83,8 @@ final class Check {
         }
     }
 
-    private static int kindOf(String word) {
+    /** The kind of a token that is written as this word; a number's is 0. */
+    static int kindOf(String word) {
         for (int kind = 1; kind < NAMES.length; kind++) {
             if (NAMES[kind].equals(word)) {
                 return kind;

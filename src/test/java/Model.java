@@ -44,6 +44,11 @@ final class Model {
     private int faultAt = -1;
     private int used = 0;
 
+    /** What has happened in all renderings: pixels mixed, put over nothing, and spared by a clip. */
+    int mixed = 0;
+    int overNothing = 0;
+    int clipped = 0;
+
     private int revisions;
     private State state;
     private final Deque<State> saved = new ArrayDeque<>();
@@ -258,6 +263,8 @@ final class Model {
                 if (colours[i][j] != null) {
                     int c = colours[i][j];
                     Integer below = belowColours[i][j];
+                    mixed += below == null ? 0 : 1;
+                    overNothing += below == null ? 1 : 0;
                     belowColours[i][j] = below == null ? c : Math.floorDiv(a * c + (16 - a) * below, 16);
                     belowMarks[i][j] = marks[i][j];
                 }
@@ -318,6 +325,8 @@ final class Model {
                 } else if (hit && state.clip[i][j]) {
                     colours[i][j] = state.colour;
                     marks[i][j] = mark;
+                } else if (hit) {
+                    clipped++;
                 }
             }
         }
